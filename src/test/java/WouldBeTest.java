@@ -29,6 +29,11 @@ public final class WouldBeTest {
         Expect.equal("leaderBehind(false) with 12", close.leaderBehind(false), 0);
         Expect.equal("leaderBehind(true) with 12, by 6 tenths", full.leaderBehind(true), 2);
         Expect.equal("digest behind leaderBehind with 12", full.digest(), before);
+        // Behind TTH: 144 and 96; behind HHT: 96 and 144.
+        OddsLadder tails = Ladders.tossed(Ladders.of(4, 6), "TT");
+        Expect.equal("leaderBehind(true) of more tails", tails.leaderBehind(true), 0);
+        OddsLadder heads = Ladders.tossed(Ladders.of(4, 6), "HH");
+        Expect.equal("leaderBehind(false) of more heads", heads.leaderBehind(false), 1);
         OddsLadder out = Ladders.tossed(Ladders.of(0, 10, 3), "H");
         Expect.equal("leaderBehind that rules out the leader", out.leaderBehind(false), 2);
     }
@@ -57,6 +62,9 @@ public final class WouldBeTest {
     private static void tossesToLead() {
         // Tails: 4, 12, 1; 20, 12, 9; 100, 12, 81; 500, 12, 729.
         toLead(Ladders.threeCoins(), 1, 0, 3);
+        // Three in a row draw level with three heads; it takes a fifth to outweigh four tails.
+        toLead(Ladders.tossed(Ladders.of(4, 6), "HHH"), 3, 0);
+        toLead(Ladders.tossed(Ladders.of(4, 6), "TTTT"), 0, 5);
         // Equal ones: the second never leads.
         toLead(Ladders.of(5, 5), 0, -1);
         // Heads let the second lead, tails the third; the fourth is always behind one of them.
@@ -140,6 +148,7 @@ public final class WouldBeTest {
         decisive(Ladders.tossed(Ladders.of(4, 6), "HH"), 0);
         decisive(Ladders.tossed(Ladders.of(4, 6), "HHT"), 2);
         decisive(Ladders.tossed(Ladders.of(4, 6), "THTHH"), 3);
+        decisive(Ladders.tossed(Ladders.of(4, 6), "HTT"), 0);
         // Level: the first leads; without a tails the second does.
         decisive(Ladders.tossed(Ladders.of(4, 6), "THTHTH"), 3);
         decisive(Ladders.tossed(Ladders.of(10, 0, 4), "HT"), 2);
@@ -174,6 +183,12 @@ public final class WouldBeTest {
                 10, 0, -1, 0, 0, -1, 4, 24, 0,
                 1, 24, 1, 1, 1,
                 1, 1, 0, 2));
+        Expect.equal("digest() with more heads than tails",
+            Ladders.tossed(Ladders.of(4, 6), "HHT").digest(),
+            digestOf(2, 1, 3, 2, 240, 0, 2, 2,
+                4, 96, 1, 6, 144, 0,
+                1, 240, 1, 1,
+                1, 1, 1, 0, 0, 1));
         OddsLadder same = Ladders.threeCoins();
         Expect.equal("digest() once more", same.digest(), same.digest());
     }
