@@ -11,19 +11,55 @@ import java.util.TreeSet;
 
 /** The document's public face and nothing beside it, and some rules of LANGUAGE.md on the source. */
 public final class FaceTest {
+    private static final String NO_SUCH = " IndexOutOfBoundsException";
+    private static final String BAD_ARGUMENT = " IllegalArgumentException";
+    private static final String BAD_STATE = " IllegalStateException";
+    /** Each method, and behind it what it declares to throw, in the document's order. */
     private static final String[] FACE = {
-        "int addCoin(int)", "int addSchool(int)", "int setShare(int, int, int)",
-        "int toss(boolean)", "boolean undo()", "int strike(int)",
-        "int coins()", "int schools()", "int tosses()", "int heads()", "boolean isHeads(int)",
-        "int tenthsOf(int)", "int oddsOf(int)", "int shareOf(int, int)",
-        "long weightOf(int, int)", "long coinWeight(int)", "long schoolWeight(int)",
-        "long wholeWeight()", "boolean isRuledOut(int)", "int ruledOut()",
-        "int coinPercent(int)", "int schoolPercent(int)", "int leadingCoin()",
-        "int leadingSchool()", "long oddsAgainst(int, int)",
-        "int surpriseOf(int)", "int allSurprise()", "int greatestSurprise()",
-        "int headsPercent()", "int wouldSurprise(boolean)",
-        "int leaderBehind(boolean)", "int tossesToLead(int)", "int decisiveTosses()",
-        "double meanTenths()", "long digest()",
+        "int addCoin(int)" + BAD_ARGUMENT + BAD_STATE,
+        "int addSchool(int)" + BAD_ARGUMENT + BAD_STATE,
+        "int setShare(int, int, int)" + NO_SUCH + BAD_ARGUMENT + BAD_STATE,
+        "int toss(boolean)" + BAD_STATE,
+        "boolean undo()" + BAD_STATE,
+        "int strike(int)" + NO_SUCH,
+        "int coins()",
+        "int schools()",
+        "int tosses()",
+        "int heads()",
+        "boolean isHeads(int)" + NO_SUCH,
+        "int tenthsOf(int)" + NO_SUCH,
+        "int oddsOf(int)" + NO_SUCH,
+        "int shareOf(int, int)" + NO_SUCH,
+        "long weightOf(int, int)" + NO_SUCH,
+        "long coinWeight(int)" + NO_SUCH,
+        "long schoolWeight(int)" + NO_SUCH,
+        "long wholeWeight()",
+        "boolean isRuledOut(int)" + NO_SUCH,
+        "int ruledOut()",
+        "int coinPercent(int)" + NO_SUCH + BAD_STATE,
+        "int schoolPercent(int)" + NO_SUCH + BAD_STATE,
+        "int leadingCoin()" + BAD_STATE,
+        "int leadingSchool()" + BAD_STATE,
+        "long oddsAgainst(int, int)" + NO_SUCH + BAD_STATE,
+        "int surpriseOf(int)" + NO_SUCH,
+        "int allSurprise()",
+        "int greatestSurprise()",
+        "int headsPercent()" + BAD_STATE,
+        "int wouldSurprise(boolean)" + BAD_STATE,
+        "int leaderBehind(boolean)" + BAD_STATE,
+        "int tossesToLead(int)" + NO_SUCH,
+        "int decisiveTosses()",
+        "double meanTenths()" + BAD_STATE,
+        "long digest()",
+    };
+    /** Each heading, and the first and the last of the calls that the document sets behind it. */
+    private static final String[] HEADINGS = {
+        "---- the ladder", "public int addCoin", "public int setShare",
+        "---- tosses", "public int toss", "public int strike",
+        "---- what there is", "public int coins", "public int shareOf",
+        "---- weights", "public long weightOf", "public long oddsAgainst",
+        "---- surprises", "public int surpriseOf", "public int wouldSurprise",
+        "---- what would be", "public int leaderBehind", "public long digest",
     };
     private static final String[] RULED_OUT = {
         "package ", "import ", "->", "::", "Exact", "try", "catch", "finally", "assert",
@@ -77,11 +113,27 @@ public final class FaceTest {
 
     private static String described(Method method) {
         String parameters = Arrays.toString(method.getParameterTypes());
-        return method.getReturnType() + " " + method.getName()
-            + "(" + parameters.substring(1, parameters.length() - 1) + ")";
+        StringBuilder text = new StringBuilder();
+        text.append(method.getReturnType()).append(' ').append(method.getName());
+        text.append('(').append(parameters, 1, parameters.length() - 1).append(')');
+        for (Class<?> thrown : method.getExceptionTypes()) {
+            text.append(' ').append(thrown.getSimpleName());
+        }
+        return text.toString();
+    }
+
+    private static void headings(String text) {
+        int at = 0;
+        for (String each : HEADINGS) {
+            String line = each.startsWith("-") ? "\n    // " + each + "\n" : " " + each + "(";
+            int found = text.indexOf(line, at);
+            Expect.equal("'" + each + "' in its place", found >= 0, true);
+            at = Math.max(at, found);
+        }
     }
 
     private static void source(String text) {
+        headings(text);
         for (String word : RULED_OUT) {
             Expect.equal("'" + word + "' in the source", text.contains(word), false);
         }
